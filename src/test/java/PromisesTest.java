@@ -269,6 +269,9 @@ public final class PromisesTest {
         holds("substitute by what contains the variable", x, 3, "ab+b+c");
         due("substitute(0, 0, 0, 3)", x.substitute(0, 0, 0, 3), 3);
         holds("substitute by itself", x, 3, "ab+bc+c");
+        put(x, 4, "c");
+        put(x, 5, "a+c");
+        due("substitute(5, 0, 4, 3)", x.substitute(5, 0, 4, 3), 0);
         due("substitute(0, 3, 1, 3)", x.substitute(0, 3, 1, 3), 2);
         due("substitute(0, 2, 7, 0)", x.substitute(0, 2, 7, 0), 1);
         holds("substitute by 0", x, 0, "ab");
@@ -329,6 +332,8 @@ public final class PromisesTest {
         holds("exchange", x, 0, "ac+bcd+d+1");
         due("exchange(0, 2, 2)", x.exchange(0, 2, 2), 4);
         holds("exchange of a variable with itself", x, 0, "ac+bcd+d+1");
+        due("exchange(0, 0, 1)", x.exchange(0, 0, 1), 4);
+        holds("exchange both ways", x, 0, "acd+bc+d+1");
         due("exchange(7, 0, 1)", x.exchange(7, 0, 1), 0);
         for (int wrong : NO_REGISTERS) {
             due("exchange(" + wrong + ", 0, 1)", x.exchange(wrong, 0, 1), INVALID);
@@ -496,6 +501,8 @@ public final class PromisesTest {
         due("the same in two registers", x.sharedSize(), 3);
         put(x, 6, "c+1");
         due("another one", x.sharedSize(), 4);
+        put(x, 0, "a+d");
+        due("the first register", x.sharedSize(), 6);
     }
 
     private static void termAt() {
@@ -604,6 +611,9 @@ public final class PromisesTest {
         put(y, 4, "1");
         due("by 1", y.reduce(2, 16, 1, 3), 1);
         holds("by 1", y, 3, "0");
+        BooleanRing z = with(6, "abcdef+1", "abcdef+f");
+        due("the greatest monomial of all", z.reduce(1, 1, 0, 2), 1);
+        holds("the greatest monomial of all", z, 2, "f+1");
         reverseReduce();
         wrongReduce(y);
     }
@@ -657,6 +667,10 @@ public final class PromisesTest {
         due("echelon by reverse", y.echelon(12, 2), 2);
         holds("echelon by reverse", y, 2, "bc+1");
         holds("echelon by reverse", y, 3, "ad+1");
+        BooleanRing z = with(6, "abcdef+1", "abcdef+f");
+        due("echelon with the greatest monomial of all", z.echelon(3, 1), 2);
+        holds("echelon with the greatest monomial of all", z, 0, "abcdef+1");
+        holds("echelon with the greatest monomial of all", z, 1, "f+1");
         due("echelon of none", y.echelon(0, 0), 0);
         due("echelon of 0", y.echelon(0xF0, 0), 0);
         for (int wrong : NO_SETS) {
