@@ -1,6 +1,6 @@
 /** The boundary cases of the description that concern many promises: the history, the errors, the 512 calls. */
 public final class HistoryAndErrorsTest {
-    /** The changes, with arguments that they accept in the state of prepared(); all but the first two change nothing. */
+    /** The changes, with arguments with which all but the first two make nothing different after prepared(). */
     private static final int[][] CHANGES = {
         {4, 0, 3, 0, 0}, {12, 0, 3, 0, 0}, {5, 6, 7, 0, 0}, {6, 6, 7, 7, 0}, {7, 6, 0, 7, 0}, {8, 6, 15, 7, 0},
         {9, 0, 3, 1, 0}, {10, 0, 3, 7, 0}, {11, 0, 3, 7, 0}, {13, 0, 2, 2, 0}, {24, 0, 0, 0, 0}, {25, 255, 0, 0, 0},

@@ -62,8 +62,7 @@ public final class RangesTest {
             return new int[] {low - 1, Integer.MIN_VALUE};
         }
         // The last ones would be in the range if bits above it were lost.
-        int[] all = {low - 1, high + 1, Integer.MIN_VALUE, Integer.MAX_VALUE, low + 256, low + 65536, low - 256};
-        return all;
+        return new int[] {low - 1, high + 1, Integer.MIN_VALUE, Integer.MAX_VALUE, low + 256, low + 65536, low - 256};
     }
 
     private static void rangeOf(int promise, int place, int n) {

@@ -39,7 +39,9 @@ public final class RegisterBoundariesTest {
             Rings.hold("at first", x, "0", "0", "0", "0", "0", "0", "0", "0");
             Check.due("terms of a ninth register", x.terms(8), Rings.INVALID);
         });
-        Check.boundary(1, "the history is empty", () -> Check.due("undo()", new BooleanRing().undo(), Rings.IMPOSSIBLE));
+        Check.boundary(1, "the history is empty", () -> {
+            Check.due("undo()", new BooleanRing().undo(), Rings.IMPOSSIBLE);
+        });
         Check.boundary(1, "the text is empty", () -> {
             BooleanRing x = new BooleanRing();
             Check.due("fault()", x.fault(), 0);
