@@ -1,10 +1,15 @@
 import java.util.Arrays;
 
-/** With few variables everything is tried: all polynomials and all arguments, and all short texts. */
+/**
+ * With few variables everything is tried: all polynomials in three registers of one or two variables, or one
+ * register of three, with all arguments that concern these registers; and all short texts.
+ */
 public final class SmallRingsTest {
     /** Before this many calls an object is left, so that none is used for more than 512. */
     private static final int CALLS = 470;
     private static final int REGISTERS = 3;
+    private static final int FIRST_CALL = 4;
+    private static final int LAST_CALL = 39;
     private static final int UNDO = 14;
     private static final int HAS = 15;
     private static final int TYPE = 34;
@@ -26,9 +31,8 @@ public final class SmallRingsTest {
 
     public static void main(String[] args) {
         threeRegistersOfOneVariable();
-        twoRegistersOfTwoVariables();
+        threeRegistersOfTwoVariables();
         oneRegisterOfThreeVariables();
-        systemsOfTwoVariables();
         shortTexts(1, "01+ab ", 5);
         shortTexts(2, "01+abc", 5);
         shortTexts(3, "1+abcd", 5);
@@ -37,36 +41,19 @@ public final class SmallRingsTest {
 
     private static void threeRegistersOfOneVariable() {
         for (int all = 0; all < 4 * 4 * 4; all++) {
-            new SmallRingsTest(1, all & 3, all >> 2 & 3, all >> 4 & 3).callEverything(4, 39);
+            new SmallRingsTest(1, all & 3, all >> 2 & 3, all >> 4).callEverything();
         }
     }
 
-    private static void twoRegistersOfTwoVariables() {
-        for (int all = 0; all < 16 * 16; all++) {
-            new SmallRingsTest(2, all & 15, all >> 4).callEverything(4, 39);
+    private static void threeRegistersOfTwoVariables() {
+        for (int all = 0; all < 16 * 16 * 16; all++) {
+            new SmallRingsTest(2, all & 15, all >> 4 & 15, all >> 8).callEverything();
         }
     }
 
     private static void oneRegisterOfThreeVariables() {
         for (int p = 0; p < 256; p++) {
-            new SmallRingsTest(3, p).callEverything(4, 23);
-            new SmallRingsTest(3, p).callEverything(26, 39);
-        }
-    }
-
-    private static void systemsOfTwoVariables() {
-        for (int all = 0; all < 16 * 16 * 16; all++) {
-            SmallRingsTest system = new SmallRingsTest(2, all & 15, all >> 4 & 15, all >> 8);
-            for (int order = 0; order < 3; order++) {
-                system.changes(25, 7, order, 0, 0);
-                system.changes(24, 2, 3, order, 3);
-                system.changes(24, 0, 6, order, 0);
-            }
-            system.answers(26, 7, 0, 0, 0);
-            system.changes(28, 7, 3, 0, 0);
-            system.changes(29, 7, 1, 3, 0);
-            system.answers(31, 2, 3, 0, 0);
-            system.answers(32, 3, 6, 0, 0);
+            new SmallRingsTest(3, p).callEverything();
         }
     }
 
@@ -118,8 +105,8 @@ public final class SmallRingsTest {
 
     // ---- all arguments
 
-    private void callEverything(int firstPromise, int lastPromise) {
-        for (int promise = firstPromise; promise <= lastPromise; promise++) {
+    private void callEverything() {
+        for (int promise = FIRST_CALL; promise <= LAST_CALL; promise++) {
             if (promise != UNDO && (promise < TYPE || promise > READ)) {
                 callWithAll(promise, new int[4], 0);
             }
